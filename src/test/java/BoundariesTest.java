@@ -103,9 +103,12 @@ public final class BoundariesTest {
         dueRefused(name + " on a full heap", BAD, BoundariesTest::full, call);
     }
 
-    // ---- all that can be seen of a heap ----
+    // ---- what can be seen of a heap ----
 
-    /** Looking changes registers, so that each look has a heap made anew. */
+    /**
+     * Counts, registers, what all ways of up to three fields lead to, and lists over field 0 to their end, in the
+     * present state and after going back. Looking changes registers, so that each look has a heap made anew.
+     */
     private static List<Integer> view(Supplier<PersistentHeap> start) {
         List<Integer> seen = new ArrayList<>();
         Supplier<PersistentHeap> gone = after(start, PersistentHeap::back);
@@ -121,6 +124,7 @@ public final class BoundariesTest {
             for (int path = 1; path < 16; path++) {
                 viewEnd(start.get(), from, path, seen);
             }
+            viewList(start.get(), from, seen);
         }
     }
 
@@ -139,10 +143,7 @@ public final class BoundariesTest {
 
     /** From a register (0 to 3) or a root (4 to 6), over the fields that the path's bits after its first tell. */
     private static void viewEnd(PersistentHeap x, int from, int path, List<Integer> seen) {
-        int g = from < 4 ? from : 0;
-        if (from >= 4) {
-            seen.add(x.fromRoot(g, from - 4));
-        }
+        int g = startOfWay(x, from);
         for (int bit = Integer.highestOneBit(path) >> 1; bit != 0; bit >>= 1) {
             seen.add(x.fromField(g, g, (path & bit) == 0 ? 0 : 1));
         }
@@ -151,6 +152,22 @@ public final class BoundariesTest {
             seen.add(x.same(g, h) ? 1 : 0);
         }
         seen.add(x.setNumber(g, 7));
+    }
+
+    private static int startOfWay(PersistentHeap x, int from) {
+        if (from < 4) {
+            return from;
+        }
+        x.fromRoot(0, from - 4);
+        return 0;
+    }
+
+    private static void viewList(PersistentHeap x, int from, List<Integer> seen) {
+        int g = startOfWay(x, from);
+        for (int i = 0; i <= MOST; i++) {
+            seen.add(x.number(g));
+            seen.add(x.fromField(g, g, 0));
+        }
     }
 
     /** A number of an object in the saved state comes back, that of a new one stays. */
@@ -600,10 +617,11 @@ public final class BoundariesTest {
 
     private static void makeOutsideWhenFull() {
         for (int g : NO_REGISTER) {
-            due("make(" + g + ", 1)", full().make(g, 1), BAD);
+            dueRefused("make(" + g + ", 1)", BAD, BoundariesTest::full, x -> x.make(g, 1));
         }
         for (int g = 0; g < 4; g++) {
-            due("make(" + g + ", 1)", full().make(g, 1), FULL);
+            int to = g;
+            dueRefused("make(" + g + ", 1)", FULL, BoundariesTest::full, x -> x.make(to, 1));
         }
     }
 
@@ -768,16 +786,18 @@ public final class BoundariesTest {
             }
         }
         for (int s = 0; s < 4; s++) {
-            due("fromField(0, " + s + ", 0) on a new heap", new PersistentHeap().fromField(0, s, 0), NOTHING);
+            int of = s;
+            String name = "fromField(0, " + s + ", 0) on a new heap";
+            dueRefused(name, NOTHING, PersistentHeap::new, x -> x.fromField(0, of, 0));
         }
     }
 
     private static void fromFieldOutsideAndOfNothing() {
         for (int g : NO_REGISTER) {
-            due("fromField(" + g + ", 1, 0)", mixed().fromField(g, 1, 0), BAD);
+            dueRefused("fromField(" + g + ", 1, 0)", BAD, BoundariesTest::mixed, x -> x.fromField(g, 1, 0));
         }
         for (int f : NO_FIELD) {
-            due("fromField(0, 1, " + f + ")", mixed().fromField(0, 1, f), BAD);
+            dueRefused("fromField(0, 1, " + f + ")", BAD, BoundariesTest::mixed, x -> x.fromField(0, 1, f));
         }
     }
 
@@ -831,16 +851,18 @@ public final class BoundariesTest {
             }
         }
         for (int s = 0; s < 4; s++) {
-            due("toField(" + s + ", 0, 0) on a new heap", new PersistentHeap().toField(s, 0, 0), NOTHING);
+            int of = s;
+            String name = "toField(" + s + ", 0, 0) on a new heap";
+            dueRefused(name, NOTHING, PersistentHeap::new, x -> x.toField(of, 0, 0));
         }
     }
 
     private static void toFieldOutsideAndOfNothing() {
         for (int g : NO_REGISTER) {
-            due("toField(1, 0, " + g + ")", mixed().toField(1, 0, g), BAD);
+            dueRefused("toField(1, 0, " + g + ")", BAD, BoundariesTest::mixed, x -> x.toField(1, 0, g));
         }
         for (int f : NO_FIELD) {
-            due("toField(1, " + f + ", 0)", mixed().toField(1, f, 0), BAD);
+            dueRefused("toField(1, " + f + ", 0)", BAD, BoundariesTest::mixed, x -> x.toField(1, f, 0));
         }
     }
 
